@@ -149,7 +149,6 @@ public final class WandSearch {
             return -1;
         }
         kinds[word] = ABSENT;
-        boosts[word] = 0;
         items--;
         return items;
     }
@@ -212,7 +211,6 @@ public final class WandSearch {
 
     // The caller has seen that there is room.
     private void openDocument() {
-        lengths[added] = 0;
         alive[added] = true;
         added++;
         liveCount++;

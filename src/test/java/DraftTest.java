@@ -118,6 +118,9 @@ public final class DraftTest {
         EXPECT.due("4: add() as the 25th", x.add(), -1);
         EXPECT.due("4: live()", x.live(), 24);
         EXPECT.due("4: spread(6)", x.spread(6), 24);
+        EXPECT.due("9: times(6, 24) of a full object", x.times(6, 24), -2);
+        EXPECT.due("14: score(24) of a full object", x.score(24), -1);
+        EXPECT.due("6: delete(24) of a full object", x.delete(24), -1);
         x.delete(23);
         x.delete(0);
         x.tidy();
