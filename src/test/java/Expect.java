@@ -1,18 +1,34 @@
+import java.util.List;
+
 /** Counts and prints the calls whose answer is not the one that is due. */
 final class Expect {
     private int wrong = 0;
+    private String sentence = "";
+
+    /** Says which words of the document the calls from here on hold to; place is a promise or a section. */
+    void sentence(String place, String words) {
+        sentence = place + " \"" + words + "\": ";
+    }
 
     void due(String call, long got, long want) {
         if (got != want) {
-            wrong++;
-            System.out.println(call + " answered " + got + ", due is " + want);
+            tell(call + " answered " + got + ", due is " + want);
         }
     }
 
     void holds(String claim, boolean truth) {
         if (!truth) {
-            wrong++;
-            System.out.println("does not hold: " + claim);
+            tell("does not hold: " + claim);
+        }
+    }
+
+    /** Two lists of answers, of which only the first difference is told. */
+    void same(String run, List<String> got, List<String> want) {
+        for (int i = 0; i < want.size(); i++) {
+            if (!got.get(i).equals(want.get(i))) {
+                tell(run + ", then " + got.get(i) + ", due is " + want.get(i));
+                return;
+            }
         }
     }
 
@@ -25,5 +41,10 @@ final class Expect {
         if (wrong != 0) {
             System.exit(1);
         }
+    }
+
+    private void tell(String what) {
+        wrong++;
+        System.out.println(sentence + what);
     }
 }

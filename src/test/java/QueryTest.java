@@ -1,232 +1,296 @@
-/** Promises 11 to 14: item, drop, matching and score. */
+/** Promises 11 to 14: item, drop, matching and score, each sentence with a test of its own. */
 public final class QueryTest {
     private static final Expect EXPECT = new Expect();
+    // In Make.fourDocuments(): rarity 64 * 5 / 3 = 106, strength 256 / 3 = 85.
+    private static final int ONCE = 106 * 85;
 
     public static void main(String[] args) {
-        itemKinds();
-        itemRefusals();
-        itemLimit();
-        drop();
+        itemPutsIn();
+        itemChanges();
+        itemWanted();
+        itemNeeded();
+        itemBarred();
+        itemOfNoWord();
+        itemOfWrongBoost();
+        itemTooMany();
+        itemAnswersHowMany();
+        dropTakesOut();
+        dropOfNone();
+        dropAnswersHowMany();
         matching();
-        matchingWithoutScoredItems();
-        scoreOfOneWord();
-        scoreQuotientsAreWhole();
-        scoreOfManyItems();
-        scoreFollowsTheLiveDocuments();
+        scoreMatchingOrNot();
+        scoreOfNoLiveDocument();
         EXPECT.finish();
     }
 
-    /** Documents: 0 has word 0; 1 has words 0 and 1; 2 has word 1; 3 has none. */
-    private static WandSearch fourDocuments() {
-        WandSearch x = new WandSearch();
-        x.write(0, 1);
-        x.add();
-        x.write(1, 1);
-        x.add();
-        x.write(0, 0);
-        x.add();
-        x.blank();
-        x.add();
-        return x;
+    private static void itemPutsIn() {
+        EXPECT.sentence("11", "Puts an item into the query");
+        for (int word = 0; word <= 7; word++) {
+            WandSearch x = new WandSearch();
+            x.write(word, 1);
+            x.add();
+            EXPECT.due("matching() without items", x.matching(), 0);
+            x.item(word, 3);
+            EXPECT.due("matching() with word " + word, x.matching(), 1);
+            EXPECT.due("score(0) with word " + word, x.score(0), 3 * 64 * 85);
+            x.item((word + 1) % 8, 0);
+            EXPECT.due("matching() with a second item", x.matching(), 1);
+            EXPECT.due("score(0) with a second item", x.score(0), 3 * 64 * 85);
+        }
+        WandSearch before = new WandSearch();
+        before.item(2, 1);
+        Make.row(before, 0, 0, 1);
+        EXPECT.due("matching(), the item put in before the document", before.matching(), 1);
     }
 
-    private static void itemKinds() {
+    private static void itemChanges() {
+        EXPECT.sentence("11", "or changes it if the word is in it");
+        int[] boosts = {1, 9, 11, 19, 0};
+        for (int first : boosts) {
+            for (int second : boosts) {
+                WandSearch x = Make.fourDocuments();
+                x.item(1, 1);
+                x.item(0, first);
+                EXPECT.due("item(0, " + second + ") after " + first, x.item(0, second), 2);
+                EXPECT.due("score(0), " + second + " after " + first, x.score(0), second % 10 * ONCE);
+                int due = second == 0 ? 1 : second > 10 ? 2 : 3;
+                EXPECT.due("matching(), " + second + " after " + first, x.matching(), due);
+            }
+        }
+        WandSearch full = Make.full();
+        for (int boost : boosts) {
+            EXPECT.due("item(3, " + boost + ") of a full query", full.item(3, boost), 5);
+        }
+    }
+
+    private static void itemWanted() {
+        EXPECT.sentence("11", "boost 1 .. 9 makes it wanted");
         for (int boost = 1; boost <= 9; boost++) {
-            WandSearch x = fourDocuments();
-            EXPECT.due("11: item(0, " + boost + ")", x.item(0, boost), 1);
-            // Rarity 64 * 5 / 3 = 106, strength 256 / 3 = 85.
-            EXPECT.due("11: score(0), boost " + boost, x.score(0), 9010L * boost);
-            EXPECT.due("11: item(1, 1)", x.item(1, 1), 2);
-            EXPECT.due("11: matching(), wanted", x.matching(), 3);
-            EXPECT.due("11: item(0, " + (boost + 10) + ")", x.item(0, boost + 10), 2);
-            EXPECT.due("11: score(0), needed with boost " + boost, x.score(0), 9010L * boost);
-            EXPECT.due("11: matching(), needed", x.matching(), 2);
-            EXPECT.due("11: item(0, 0)", x.item(0, 0), 2);
-            EXPECT.due("11: score(0), barred", x.score(0), 0);
-            EXPECT.due("11: matching(), barred", x.matching(), 1);
-            EXPECT.due("11: ranked(0), barred", x.ranked(0), 2);
-            EXPECT.due("11: item(0, " + boost + ") again", x.item(0, boost), 2);
-            EXPECT.due("11: score(0), wanted again", x.score(0), 9010L * boost);
-            EXPECT.due("11: matching(), wanted again", x.matching(), 3);
+            WandSearch x = Make.fourDocuments();
+            x.item(1, 1);
+            EXPECT.due("item(0, " + boost + ")", x.item(0, boost), 2);
+            EXPECT.due("matching(): documents without word 0 too", x.matching(), 3);
+            EXPECT.due("score(0), boost " + boost, x.score(0), boost * ONCE);
+            EXPECT.due("score(1), boost " + boost, x.score(1), (boost + 1) * ONCE);
         }
     }
 
-    private static void itemRefusals() {
-        WandSearch x = fourDocuments();
-        x.item(0, 2);
-        for (int word : new int[] {-1, 8, Integer.MIN_VALUE, Integer.MAX_VALUE}) {
-            EXPECT.due("11: item(" + word + ", 1)", x.item(word, 1), -1);
-            EXPECT.due("11: item(" + word + ", 10): the word is looked at first", x.item(word, 10), -1);
+    private static void itemNeeded() {
+        EXPECT.sentence("11", "11 .. 19 needed with the boost less by 10");
+        for (int boost = 11; boost <= 19; boost++) {
+            WandSearch x = Make.fourDocuments();
+            x.item(1, 1);
+            EXPECT.due("item(0, " + boost + ")", x.item(0, boost), 2);
+            EXPECT.due("matching(): only documents with word 0", x.matching(), 2);
+            EXPECT.due("score(0), boost " + boost, x.score(0), (boost - 10) * ONCE);
+            EXPECT.due("score(1), boost " + boost, x.score(1), (boost - 9) * ONCE);
         }
-        for (int boost : new int[] {-1, 10, 20, -10, Integer.MIN_VALUE, Integer.MAX_VALUE}) {
-            EXPECT.due("11: item(1, " + boost + ")", x.item(1, boost), -2);
-            EXPECT.due("11: item(0, " + boost + ") of a word in the query", x.item(0, boost), -2);
-        }
-        EXPECT.due("11: score(0) after refusals", x.score(0), 18020);
-        EXPECT.due("11: item(7, 19) after refusals", x.item(7, 19), 2);
     }
 
-    private static void itemLimit() {
-        WandSearch x = fourDocuments();
-        for (int word = 0; word < 5; word++) {
-            EXPECT.due("11: item(" + word + ", 0)", x.item(word, 0), word + 1);
-        }
-        EXPECT.due("11: item(5, 1) as the sixth", x.item(5, 1), -3);
-        EXPECT.due("11: item(5, 10): the boost is looked at before the room", x.item(5, 10), -2);
-        EXPECT.due("11: item(8, 1): the word is looked at before the room", x.item(8, 1), -1);
-        EXPECT.due("11: item(4, 3) of a word in the full query", x.item(4, 3), 5);
-        EXPECT.due("11: item(0, 14) of a word in the full query", x.item(0, 14), 5);
-        EXPECT.due("11: drop(5): the refused word is not in it", x.drop(5), -1);
-        EXPECT.due("11: drop(2)", x.drop(2), 4);
-        EXPECT.due("11: item(5, 1) with room again", x.item(5, 1), 5);
-        EXPECT.due("11: item(2, 1) as the sixth", x.item(2, 1), -3);
+    private static void itemBarred() {
+        EXPECT.sentence("11", "0 barred");
+        WandSearch x = Make.fourDocuments();
+        x.item(1, 1);
+        EXPECT.due("item(0, 0)", x.item(0, 0), 2);
+        EXPECT.due("matching(): only documents without word 0", x.matching(), 1);
+        EXPECT.due("ranked(0)", x.ranked(0), 2);
+        EXPECT.due("score(0)", x.score(0), 0);
+        EXPECT.due("score(1)", x.score(1), ONCE);
     }
 
-    private static void drop() {
-        WandSearch x = fourDocuments();
-        EXPECT.due("12: drop(0) of none", x.drop(0), -1);
+    private static void itemOfNoWord() {
+        EXPECT.sentence("11", "-1 if word is not good");
+        WandSearch x = new WandSearch();
+        WandSearch full = Make.full();
+        for (int word : Make.outside(0, 7)) {
+            for (int boost : new int[] {0, 1, 11, 10}) {
+                EXPECT.due("item(" + word + ", " + boost + ")", x.item(word, boost), -1);
+                EXPECT.due("item(" + word + ", " + boost + ") of a full query", full.item(word, boost), -1);
+            }
+        }
+        EXPECT.due("item(0, 0)", x.item(0, 0), 1);
+        EXPECT.due("item(7, 0)", x.item(7, 0), 2);
+    }
+
+    private static void itemOfWrongBoost() {
+        EXPECT.sentence("11", "-2 if boost is not one of these numbers");
+        WandSearch x = new WandSearch();
+        EXPECT.due("item(0, 10)", x.item(0, 10), -2);
+        for (int boost : Make.outside(0, 19)) {
+            EXPECT.due("item(0, " + boost + ")", x.item(0, boost), -2);
+        }
+        int items = 0;
+        for (int boost : new int[] {0, 1, 9, 11, 19}) {
+            items++;
+            EXPECT.due("item(" + items + ", " + boost + ")", x.item(items, boost), items);
+        }
+        for (int boost : new int[] {-1, 10, 20, -10}) {
+            EXPECT.due("item(1, " + boost + ") of a word in it", x.item(1, boost), -2);
+            EXPECT.due("item(7, " + boost + ") of a full query", x.item(7, boost), -2);
+        }
+    }
+
+    private static void itemTooMany() {
+        EXPECT.sentence("11", "-3 if the query has 5 items and the word is not among them");
+        WandSearch x = new WandSearch();
+        for (int word = 0; word < 4; word++) {
+            x.item(word, 1);
+        }
+        EXPECT.due("item(7, 0) as the fifth", x.item(7, 0), 5);
+        for (int word : new int[] {4, 5, 6}) {
+            for (int boost : new int[] {0, 1, 9, 11, 19}) {
+                EXPECT.due("item(" + word + ", " + boost + ") as the sixth", x.item(word, boost), -3);
+            }
+        }
+        for (int word : new int[] {0, 1, 2, 3, 7}) {
+            EXPECT.due("item(" + word + ", 12) of a word among them", x.item(word, 12), 5);
+        }
+        x.drop(2);
+        EXPECT.due("item(4, 1) with room again", x.item(4, 1), 5);
+        EXPECT.due("item(2, 1): it is not among them any more", x.item(2, 1), -3);
+    }
+
+    private static void itemAnswersHowMany() {
+        EXPECT.sentence("11", "otherwise answers how many items it has");
+        WandSearch x = new WandSearch();
+        for (int items = 1; items <= 5; items++) {
+            EXPECT.due("item(" + items + ", 1)", x.item(items, 1), items);
+            EXPECT.due("item(" + items + ", 0), changed", x.item(items, 0), items);
+            EXPECT.due("item(1, 15), changed", x.item(1, 15), items);
+        }
+        x.drop(1);
+        x.drop(5);
+        EXPECT.due("item(2, 2) after two drops", x.item(2, 2), 3);
+        EXPECT.due("item(0, 2) after two drops", x.item(0, 2), 4);
+    }
+
+    private static void dropTakesOut() {
+        EXPECT.sentence("12", "Takes the item with a word out of the query");
+        WandSearch x = Make.fourDocuments();
         x.item(0, 1);
         x.item(1, 0);
         x.item(2, 15);
-        for (int word : new int[] {-1, 3, 7, 8, Integer.MIN_VALUE, Integer.MAX_VALUE}) {
-            EXPECT.due("12: drop(" + word + ")", x.drop(word), -1);
+        EXPECT.due("matching() with all three", x.matching(), 0);
+        x.drop(2);
+        EXPECT.due("matching() without the needed word", x.matching(), 1);
+        x.drop(1);
+        EXPECT.due("matching() without the barred word", x.matching(), 2);
+        EXPECT.due("score(0)", x.score(0), ONCE);
+        x.drop(0);
+        EXPECT.due("matching() without the wanted word", x.matching(), 0);
+        EXPECT.due("score(0) for the empty query", x.score(0), 0);
+        x.item(0, 12);
+        EXPECT.due("score(0), put in again with another boost", x.score(0), 2 * ONCE);
+        for (int word = 0; word <= 7; word++) {
+            WandSearch y = new WandSearch();
+            y.item(word, 1);
+            y.item((word + 1) % 8, 1);
+            y.drop(word);
+            EXPECT.due("drop(" + (word + 1) % 8 + ") of the other item", y.drop((word + 1) % 8), 0);
         }
-        EXPECT.due("12: matching() with all three", x.matching(), 0);
-        EXPECT.due("12: drop(2), needed", x.drop(2), 2);
-        EXPECT.due("12: matching() without the needed word", x.matching(), 1);
-        EXPECT.due("12: drop(1), barred", x.drop(1), 1);
-        EXPECT.due("12: matching() without the barred word", x.matching(), 2);
-        EXPECT.due("12: drop(0), wanted", x.drop(0), 0);
-        EXPECT.due("12: score(0) of the empty query", x.score(0), 0);
-        EXPECT.due("12: drop(0) again", x.drop(0), -1);
-        EXPECT.due("12: item(1, 1)", x.item(1, 1), 1);
+    }
+
+    private static void dropOfNone() {
+        EXPECT.sentence("12", "-1 if there is none");
+        WandSearch x = new WandSearch();
+        for (int word = 0; word <= 7; word++) {
+            EXPECT.due("drop(" + word + ") of the empty query", x.drop(word), -1);
+        }
+        x.item(0, 1);
+        x.item(7, 0);
+        for (int word = 1; word <= 6; word++) {
+            EXPECT.due("drop(" + word + ") of another word", x.drop(word), -1);
+        }
+        for (int word : Make.outside(0, 7)) {
+            EXPECT.due("drop(" + word + ") of no word", x.drop(word), -1);
+        }
+        x.drop(7);
+        EXPECT.due("drop(7) again", x.drop(7), -1);
+        EXPECT.due("drop(0)", x.drop(0), 0);
+        EXPECT.due("drop(0) again", x.drop(0), -1);
+        EXPECT.due("drop(7) of a word refused by a full query", afterRefusedItem().drop(7), -1);
+    }
+
+    private static WandSearch afterRefusedItem() {
+        WandSearch x = Make.full();
+        x.item(7, 1);
+        return x;
+    }
+
+    private static void dropAnswersHowMany() {
+        EXPECT.sentence("12", "otherwise answers how many items it has");
+        WandSearch x = Make.full();
+        int left = 5;
+        for (int word : new int[] {6, 0, 4, 1, 3}) {
+            left--;
+            EXPECT.due("drop(" + word + ")", x.drop(word), left);
+        }
+        EXPECT.due("item(7, 0) of the empty query", x.item(7, 0), 1);
+        EXPECT.due("drop(7), barred", x.drop(7), 0);
     }
 
     private static void matching() {
-        WandSearch x = fourDocuments();
-        EXPECT.due("13: matching() of the empty query", x.matching(), 0);
-        x.item(0, 11);
-        EXPECT.due("13: matching(), 0 needed", x.matching(), 2);
-        x.item(1, 11);
-        EXPECT.due("13: matching(), both needed", x.matching(), 1);
-        EXPECT.due("13: ranked(0), both needed", x.ranked(0), 1);
-        x.item(1, 5);
-        EXPECT.due("13: matching(), 0 needed and 1 wanted", x.matching(), 2);
-        x.item(1, 0);
-        EXPECT.due("13: matching(), 0 needed and 1 barred", x.matching(), 1);
-        EXPECT.due("13: ranked(0), 0 needed and 1 barred", x.ranked(0), 0);
-        x.item(1, 1);
-        x.item(0, 1);
-        EXPECT.due("13: matching(), both wanted", x.matching(), 3);
-        x.delete(1);
-        EXPECT.due("13: matching() after a delete", x.matching(), 2);
-        x.item(5, 11);
-        EXPECT.due("13: matching() with a needed word that none has", x.matching(), 0);
-    }
-
-    private static void matchingWithoutScoredItems() {
-        WandSearch x = fourDocuments();
-        x.item(0, 0);
-        EXPECT.due("13: matching(), only barred items", x.matching(), 0);
-        EXPECT.due("13: scoring(least), only barred items", x.scoring(Integer.MIN_VALUE), 0);
-        x.item(7, 4);
-        EXPECT.due("13: matching(), a wanted word that none has", x.matching(), 0);
-    }
-
-    private static void scoreOfOneWord() {
+        EXPECT.sentence("13", "How many documents match.");
         WandSearch x = new WandSearch();
-        EXPECT.due("14: score(0) of none", x.score(0), -1);
+        EXPECT.due("matching() of none for the empty query", x.matching(), 0);
+        x.item(0, 1);
+        EXPECT.due("matching() of none", x.matching(), 0);
+        x.add();
+        EXPECT.due("matching() of an empty document", x.matching(), 0);
         x.write(0, 1);
-        x.add();
-        x.item(0, 9);
-        // Rarity 64 * 2 / 2 = 64, strength 256 / 3 = 85.
-        EXPECT.due("14: score(0)", x.score(0), 9 * 64 * 85);
-        for (int document : new int[] {-1, 1, 23, 24, Integer.MIN_VALUE, Integer.MAX_VALUE}) {
-            EXPECT.due("14: score(" + document + ")", x.score(document), -1);
-        }
-        x.item(0, 0);
-        EXPECT.due("14: score(0) with the word barred", x.score(0), 0);
-        x.item(0, 2);
-        x.item(1, 11);
-        EXPECT.due("14: matching() without the needed word", x.matching(), 0);
-        EXPECT.due("14: score(0) though it does not match", x.score(0), 2 * 64 * 85);
-        x.item(1, 0);
-        x.write(1, 1);
-        x.add();
-        EXPECT.due("14: matching() of the one without the barred word", x.matching(), 1);
-        EXPECT.due("14: score(1) though it has a barred word", x.score(1), 2 * 64 * 85);
-        x.delete(0);
-        EXPECT.due("14: score(0) when deleted", x.score(0), -1);
-    }
-
-    private static void scoreQuotientsAreWhole() {
-        WandSearch x = new WandSearch();
-        x.item(0, 1);
-        x.write(0, 3);
-        x.add();
-        // Length 3 adds 0 to the divisor: 768 / 5 = 153.
-        EXPECT.due("14: score(0), length 3", x.score(0), 64 * 153);
-        x.write(1, 1);
-        x.add();
-        // Length 4 adds 1: 768 / 6 = 128; rarity 64 * 3 / 3.
-        EXPECT.due("14: score(1), length 4", x.score(1), 64 * 128);
-        x.write(1, 4);
-        x.add();
-        EXPECT.due("14: score(2), length 7", x.score(2), 64 * 128);
-        x.write(1, 5);
-        x.add();
-        // Length 8 adds 2: 768 / 7 = 109.
-        EXPECT.due("14: score(3), length 8", x.score(3), 64 * 109);
-        x.blank();
-        x.add();
-        // Rarity 64 * 6 / 5 = 76, cut before it is multiplied.
-        EXPECT.due("14: score(3), one without the word", x.score(3), 76 * 109);
-        EXPECT.due("14: score(4) without the word", x.score(4), 0);
-        for (int word = 0; word < 8; word++) {
-            x.write(word, 7);
-        }
-        x.add();
-        // Rarity 64 * 7 / 6 = 74, length 56: 1792 / 23 = 77.
-        EXPECT.due("14: score(5), length 56", x.score(5), 74 * 77);
-    }
-
-    private static void scoreOfManyItems() {
-        WandSearch x = new WandSearch();
-        x.write(0, 2);
-        x.write(7, 5);
-        x.write(3, 1);
-        x.add();
-        x.blank();
-        for (int empty = 0; empty < 23; empty++) {
+        for (int document = 1; document < 24; document++) {
             x.add();
+            EXPECT.due("matching() after add()", x.matching(), document);
         }
-        x.item(0, 9);
-        x.item(7, 19);
-        x.item(3, 0);
-        x.item(4, 9);
-        x.item(5, 3);
-        // Rarity 64 * 25 / 2 = 800; length 8: 512 / 6 = 85 and 1280 / 9 = 142.
-        EXPECT.due("14: score(0)", x.score(0), 9 * 800 * 85 + 9 * 800 * 142);
-        EXPECT.due("14: score(1)", x.score(1), 0);
-        x.item(3, 1);
-        // 256 / 5 = 51.
-        EXPECT.due("14: score(0) with a third word", x.score(0), 9 * 800 * 85 + 9 * 800 * 142 + 800 * 51);
-        EXPECT.due("13: matching()", x.matching(), 1);
+        for (int document = 23; document > 0; document--) {
+            x.delete(document);
+            EXPECT.due("matching() after delete(" + document + ")", x.matching(), document - 1);
+        }
+        WandSearch full = Make.alike(24);
+        EXPECT.due("matching() of 24 for the empty query", full.matching(), 0);
+        full.item(0, 11);
+        EXPECT.due("matching() of 24", full.matching(), 24);
+        full.item(0, 0);
+        EXPECT.due("matching() of 24, barred", full.matching(), 0);
     }
 
-    private static void scoreFollowsTheLiveDocuments() {
-        WandSearch x = fourDocuments();
-        x.item(1, 1);
-        // Rarity 64 * 5 / 3 = 106.
-        EXPECT.due("14: score(2), 4 live", x.score(2), 106 * 85);
-        x.delete(1);
-        // Rarity 64 * 4 / 2 = 128.
-        EXPECT.due("14: score(2), the other holder deleted", x.score(2), 128 * 85);
-        x.delete(3);
+    private static void scoreMatchingOrNot() {
+        EXPECT.sentence("14", "The score of a document for the query, matching or not");
+        WandSearch x = Make.fourDocuments();
+        EXPECT.due("score(1) for the empty query", x.score(1), 0);
+        x.item(0, 2);
+        EXPECT.due("score(1), matching", x.score(1), 2 * ONCE);
+        EXPECT.due("score(3), with no word", x.score(3), 0);
+        x.item(1, 0);
+        EXPECT.due("score(1) with a barred word", x.score(1), 2 * ONCE);
+        x.item(1, 19);
+        EXPECT.due("score(0) without a needed word", x.score(0), 2 * ONCE);
+        EXPECT.due("score(2), with the needed word alone", x.score(2), 9 * ONCE);
+        x.item(7, 11);
+        EXPECT.due("matching(), with a needed word that none has", x.matching(), 0);
+        EXPECT.due("score(1), with a needed word that none has", x.score(1), 11 * ONCE);
+        x.item(0, 0);
+        x.item(1, 0);
+        EXPECT.due("score(1), with barred words alone", x.score(1), 0);
+    }
+
+    private static void scoreOfNoLiveDocument() {
+        EXPECT.sentence("14", "-1 if there is no such live document");
+        WandSearch x = new WandSearch();
+        EXPECT.due("score(0) of none", x.score(0), -1);
+        x.item(0, 1);
+        Make.row(x, 1);
+        EXPECT.due("score(0) of 1", x.score(0), 64 * 85);
+        EXPECT.due("score(1) of 1", x.score(1), -1);
+        EXPECT.due("score(23) of 1", x.score(23), -1);
         x.delete(0);
-        EXPECT.due("14: score(2), alone", x.score(2), 64 * 85);
-        x.tidy();
-        EXPECT.due("14: score(2), tidied", x.score(2), 64 * 85);
-        EXPECT.due("14: rankedScore(0)", x.rankedScore(0), 64 * 85);
+        EXPECT.due("score(0) when deleted", x.score(0), -1);
+        Make.adds(x, 23);
+        EXPECT.due("score(23) of 24", x.score(23), 64 * 85);
+        for (int document : Make.outside(0, 23)) {
+            EXPECT.due("score(" + document + ") of 24", x.score(document), -1);
+        }
+        x.delete(23);
+        EXPECT.due("score(23) when deleted", x.score(23), -1);
     }
 }

@@ -1,169 +1,214 @@
-/** Promises 15 to 17: ranked, rankedScore and scoring. */
+import java.util.function.ToIntBiFunction;
+
+/** Promises 15 to 17: ranked, rankedScore and scoring, each sentence with a test of its own. */
 public final class RankingTest {
     private static final Expect EXPECT = new Expect();
-    private static final int[] NO_POSITIONS = {-1, 10, 11, Integer.MIN_VALUE, Integer.MAX_VALUE};
 
     public static void main(String[] args) {
-        fallingScores();
-        tiesByNumber();
-        tenPlaces();
-        onlyMatchingDocuments();
-        positionRefusals();
-        scoring();
-        questionsChangeNothing();
+        rankedAtAPosition();
+        rankedOfOnlyMatchingDocuments();
+        rankedOfWrongPosition();
+        rankedOfTooFewDocuments();
+        rankedScoreOfThatDocument();
+        rankedScoreOfWrongPosition();
+        rankedScoreOfTooFewDocuments();
+        scoringAtLeast();
+        scoringOfOnlyMatchingDocuments();
+        scoringOfAnyBound();
         EXPECT.finish();
     }
 
     private static void ranks(String run, WandSearch x, int... documents) {
         for (int position = 0; position < documents.length; position++) {
-            int due = documents[position];
-            EXPECT.due("15: " + run + ", ranked(" + position + ")", x.ranked(position), due);
-            EXPECT.due("16: " + run + ", rankedScore(" + position + ")", x.rankedScore(position), x.score(due));
+            EXPECT.due(run + ", ranked(" + position + ")", x.ranked(position), documents[position]);
         }
         if (documents.length < 10) {
-            EXPECT.due("15: " + run + ", behind the last", x.ranked(documents.length), -2);
-            EXPECT.due("16: " + run + ", behind the last", x.rankedScore(documents.length), -2);
+            EXPECT.due(run + ", ranked(" + documents.length + ")", x.ranked(documents.length), -2);
         }
     }
 
-    private static void fallingScores() {
+    /** Word 0 so often as the numbers say, one document each, and wanted with boost 3. */
+    private static WandSearch wanted(int... times) {
         WandSearch x = new WandSearch();
-        for (int times : new int[] {2, 7, 1, 5}) {
-            x.write(0, times);
-            x.add();
+        for (int k : times) {
+            Make.row(x, k);
         }
         x.item(0, 3);
-        // Strengths 128, 179, 85 and 160, rarity 64.
-        ranks("one word", x, 1, 3, 0, 2);
-        EXPECT.due("16: rankedScore(0)", x.rankedScore(0), 3 * 64 * 179);
-        EXPECT.due("16: rankedScore(1)", x.rankedScore(1), 3 * 64 * 160);
-        EXPECT.due("16: rankedScore(2)", x.rankedScore(2), 3 * 64 * 128);
-        EXPECT.due("16: rankedScore(3)", x.rankedScore(3), 3 * 64 * 85);
+        return x;
+    }
+
+    private static void rankedAtAPosition() {
+        EXPECT.sentence("15", "The document at a position of the ranking (0 for the first).");
+        // Strengths 128, 179, 85 and 160.
+        WandSearch x = wanted(2, 7, 1, 5);
+        ranks("4 documents", x, 1, 3, 0, 2);
         x.delete(1);
         ranks("the first deleted", x, 3, 0, 2);
-        x.write(0, 6);
-        x.add();
+        Make.row(x, 6);
         ranks("a new first", x, 4, 3, 0, 2);
-        x.item(0, 0);
-        ranks("barred", x);
-    }
-
-    private static void tiesByNumber() {
-        WandSearch x = new WandSearch();
-        for (int times : new int[] {1, 4, 1, 4, 1, 4}) {
-            x.write(5, times);
-            x.add();
-        }
-        x.item(5, 1);
-        ranks("ties", x, 1, 3, 5, 0, 2, 4);
-        x.delete(1);
         x.delete(2);
-        x.tidy();
-        ranks("ties after deletes", x, 3, 5, 0, 4);
-        x.add();
-        ranks("a late tie", x, 3, 5, 6, 0, 4);
+        ranks("the last deleted", x, 4, 3, 0);
+        WandSearch ties = wanted(1, 7, 1, 7, 1, 7);
+        ranks("ties", ties, 1, 3, 5, 0, 2, 4);
+        Make.deletes(ties, 1, 2);
+        ranks("ties after deletes", ties, 3, 5, 0, 4);
+        ties.add();
+        ranks("a late tie", ties, 3, 5, 6, 0, 4);
+        WandSearch full = Make.alike(24);
+        full.item(0, 1);
+        ranks("24 alike", full, 0, 1, 2, 3, 4, 5, 6, 7, 8, 9);
     }
 
-    private static void tenPlaces() {
+    private static void rankedOfOnlyMatchingDocuments() {
+        EXPECT.sentence("15", "The document at a position of the ranking");
         WandSearch x = new WandSearch();
-        x.write(2, 1);
-        x.item(2, 1);
-        for (int document = 0; document < 9; document++) {
-            x.add();
-        }
-        EXPECT.due("15: ranked(8), 9 matching", x.ranked(8), 8);
-        EXPECT.due("15: ranked(9), 9 matching", x.ranked(9), -2);
-        EXPECT.due("16: rankedScore(9), 9 matching", x.rankedScore(9), -2);
-        x.add();
-        ranks("10 matching", x, 0, 1, 2, 3, 4, 5, 6, 7, 8, 9);
-        for (int document = 10; document < 23; document++) {
-            x.add();
-        }
-        x.write(2, 7);
-        x.add();
-        EXPECT.due("13: matching()", x.matching(), 24);
-        ranks("24 matching", x, 23, 0, 1, 2, 3, 4, 5, 6, 7, 8);
-    }
-
-    private static void onlyMatchingDocuments() {
-        WandSearch x = new WandSearch();
-        x.write(0, 7);
-        x.write(1, 1);
-        x.add();
-        x.write(0, 1);
-        x.write(2, 1);
-        x.add();
-        x.blank();
-        x.write(0, 2);
-        x.add();
+        Make.row(x, 7, 1);
+        Make.row(x, 1, 1, 1);
+        Make.row(x, 2);
         x.item(0, 9);
         x.item(2, 0);
         ranks("2 barred", x, 0, 2);
         x.item(1, 11);
-        ranks("1 needed too", x, 0);
+        ranks("2 barred and 1 needed", x, 0);
         x.drop(2);
         ranks("1 needed", x, 0, 1);
         x.item(2, 11);
         ranks("1 and 2 needed", x, 1);
+        x.item(3, 11);
+        ranks("a word needed that none has", x);
+        WandSearch barred = wanted(2, 7);
+        barred.item(0, 0);
+        ranks("barred", barred);
     }
 
-    private static void positionRefusals() {
-        WandSearch empty = new WandSearch();
-        WandSearch full = new WandSearch();
-        full.write(0, 1);
+    private static void wrongPositions(String call, ToIntBiFunction<WandSearch, Integer> ask) {
+        WandSearch none = new WandSearch();
+        WandSearch full = Make.alike(24);
         full.item(0, 1);
-        for (int document = 0; document < 24; document++) {
-            full.add();
+        for (int position : Make.outside(0, 9)) {
+            EXPECT.due(call + "(" + position + ") of none", ask.applyAsInt(none, position), -1);
+            EXPECT.due(call + "(" + position + ") of 24", ask.applyAsInt(full, position), -1);
         }
-        for (int position : NO_POSITIONS) {
-            EXPECT.due("15: ranked(" + position + ") of none", empty.ranked(position), -1);
-            EXPECT.due("16: rankedScore(" + position + ") of none", empty.rankedScore(position), -1);
-            EXPECT.due("15: ranked(" + position + ") of 24", full.ranked(position), -1);
-            EXPECT.due("16: rankedScore(" + position + ") of 24", full.rankedScore(position), -1);
-        }
-        EXPECT.due("15: ranked(0) of none", empty.ranked(0), -2);
-        EXPECT.due("16: rankedScore(0) of none", empty.rankedScore(0), -2);
-        EXPECT.due("15: ranked(9) of none", empty.ranked(9), -2);
-        EXPECT.due("16: rankedScore(9) of none", empty.rankedScore(9), -2);
+        EXPECT.holds(call + "(0) of 24 is not refused", ask.applyAsInt(full, 0) >= 0);
+        EXPECT.holds(call + "(9) of 24 is not refused", ask.applyAsInt(full, 9) >= 0);
     }
 
-    private static void scoring() {
+    private static void tooFewDocuments(String call, ToIntBiFunction<WandSearch, Integer> ask) {
         WandSearch x = new WandSearch();
-        for (int times : new int[] {2, 7, 1, 5, 2}) {
-            x.write(0, times);
+        x.item(0, 1);
+        // A document that does not match takes no position.
+        x.add();
+        x.write(0, 1);
+        for (int matching = 0; matching <= 10; matching++) {
+            for (int position = 0; position <= 9; position++) {
+                boolean refused = ask.applyAsInt(x, position) == -2;
+                EXPECT.holds(call + "(" + position + ") of " + matching, refused == position >= matching);
+            }
             x.add();
         }
-        x.blank();
-        x.add();
-        x.item(0, 1);
-        // Rarity 64 * 7 / 6 = 74; strengths 128, 179, 85, 160 and 128.
-        EXPECT.due("17: scoring(least): only those that match", x.scoring(Integer.MIN_VALUE), 5);
-        EXPECT.due("17: scoring(0)", x.scoring(0), 5);
-        EXPECT.due("17: scoring(the last)", x.scoring(74 * 85), 5);
-        EXPECT.due("17: scoring(above the last)", x.scoring(74 * 85 + 1), 4);
-        EXPECT.due("17: scoring(the tie)", x.scoring(74 * 128), 4);
-        EXPECT.due("17: scoring(above the tie)", x.scoring(74 * 128 + 1), 2);
-        EXPECT.due("17: scoring(the first)", x.scoring(74 * 179), 1);
-        EXPECT.due("17: scoring(above the first)", x.scoring(74 * 179 + 1), 0);
-        EXPECT.due("17: scoring(greatest)", x.scoring(Integer.MAX_VALUE), 0);
-        x.delete(1);
-        EXPECT.due("17: scoring(0) after a delete", x.scoring(0), 4);
-        x.item(1, 11);
-        EXPECT.due("17: scoring(0) with a needed word missing", x.scoring(0), 0);
+        x.drop(0);
+        EXPECT.due(call + "(0) for the empty query", ask.applyAsInt(x, 0), -2);
+        WandSearch deleted = Make.alike(2);
+        deleted.item(0, 1);
+        deleted.delete(0);
+        EXPECT.due(call + "(1), one of 2 deleted", ask.applyAsInt(deleted, 1), -2);
+        deleted.delete(1);
+        EXPECT.due(call + "(0), both deleted", ask.applyAsInt(deleted, 0), -2);
     }
 
-    private static void questionsChangeNothing() {
-        WandSearch x = new WandSearch();
-        x.addMany(4, 20);
-        x.item(0, 5);
-        x.item(3, 2);
-        x.item(6, 9);
-        for (int round = 0; round < 3; round++) {
-            EXPECT.due("15: ranked(9), round " + round, x.ranked(9), 9);
-            EXPECT.due("16: rankedScore(0), round " + round, x.rankedScore(0), 87138);
-            EXPECT.due("15: ranked(0), round " + round, x.ranked(0), 1);
-            EXPECT.due("17: scoring(30000), round " + round, x.scoring(30000), 10);
-            EXPECT.due("13: matching(), round " + round, x.matching(), 16);
+    private static void rankedOfWrongPosition() {
+        EXPECT.sentence("15", "-1 if position is not in 0 .. 9");
+        wrongPositions("ranked", WandSearch::ranked);
+    }
+
+    private static void rankedOfTooFewDocuments() {
+        EXPECT.sentence("15", "-2 if there are not so many matching documents");
+        tooFewDocuments("ranked", WandSearch::ranked);
+    }
+
+    private static void rankedScoreOfThatDocument() {
+        EXPECT.sentence("16", "The score of that document.");
+        WandSearch x = wanted(2, 7, 1, 5, 2);
+        int[] strengths = {179, 160, 128, 128, 85};
+        for (int position = 0; position < 5; position++) {
+            EXPECT.due("rankedScore(" + position + ")", x.rankedScore(position), 3 * 64 * strengths[position]);
         }
+        x.delete(1);
+        EXPECT.due("rankedScore(0), the first deleted", x.rankedScore(0), 3 * 64 * 160);
+        x.item(0, 19);
+        EXPECT.due("rankedScore(3), another boost", x.rankedScore(3), 9 * 64 * 85);
+        // Word 0 once beside 36, 32, .. 0 others, so that the last one added is the first of the ranking.
+        WandSearch ten = new WandSearch();
+        ten.item(0, 1);
+        for (int quarter = 9; quarter >= 0; quarter--) {
+            addWithOthers(ten, 4 * quarter);
+        }
+        int[] due = {85, 64, 51, 42, 36, 32, 28, 25, 23, 21};
+        for (int position = 0; position <= 9; position++) {
+            EXPECT.due("rankedScore(" + position + ") of 10", ten.rankedScore(position), 64 * due[position]);
+        }
+    }
+
+    private static void addWithOthers(WandSearch x, int others) {
+        int[] times = {1, 0, 0, 0, 0, 0, 0, 0};
+        for (int i = 0; i < others; i++) {
+            times[1 + i % 7]++;
+        }
+        Make.row(x, times);
+    }
+
+    private static void rankedScoreOfWrongPosition() {
+        EXPECT.sentence("16", "-1 if position is not in 0 .. 9");
+        wrongPositions("rankedScore", WandSearch::rankedScore);
+    }
+
+    private static void rankedScoreOfTooFewDocuments() {
+        EXPECT.sentence("16", "-2 if there are not so many matching documents");
+        tooFewDocuments("rankedScore", WandSearch::rankedScore);
+    }
+
+    private static void scoringAtLeast() {
+        EXPECT.sentence("17", "How many matching documents have a score of at least bound");
+        WandSearch x = wanted(2, 7, 1, 5, 2);
+        EXPECT.due("scoring(the last)", x.scoring(3 * 64 * 85), 5);
+        EXPECT.due("scoring(above the last)", x.scoring(3 * 64 * 85 + 1), 4);
+        EXPECT.due("scoring(the tie)", x.scoring(3 * 64 * 128), 4);
+        EXPECT.due("scoring(above the tie)", x.scoring(3 * 64 * 128 + 1), 2);
+        EXPECT.due("scoring(the second)", x.scoring(3 * 64 * 160), 2);
+        EXPECT.due("scoring(the first)", x.scoring(3 * 64 * 179), 1);
+        EXPECT.due("scoring(above the first)", x.scoring(3 * 64 * 179 + 1), 0);
+        WandSearch full = Make.alike(24);
+        full.item(0, 1);
+        EXPECT.due("scoring(the score) of 24 alike", full.scoring(64 * 85), 24);
+        EXPECT.due("scoring(above the score) of 24 alike", full.scoring(64 * 85 + 1), 0);
+    }
+
+    private static void scoringOfOnlyMatchingDocuments() {
+        EXPECT.sentence("17", "How many matching documents");
+        WandSearch x = Make.fourDocuments();
+        EXPECT.due("scoring(0) for the empty query", x.scoring(0), 0);
+        x.item(0, 1);
+        EXPECT.due("scoring(0): those without the word score 0", x.scoring(0), 2);
+        x.item(1, 0);
+        EXPECT.due("scoring(1): one with a barred word scores too", x.scoring(1), 1);
+        x.item(1, 11);
+        EXPECT.due("scoring(1): one without a needed word scores too", x.scoring(1), 2);
+        x.delete(1);
+        EXPECT.due("scoring(1), one of the two deleted", x.scoring(1), 1);
+    }
+
+    private static void scoringOfAnyBound() {
+        EXPECT.sentence("17", "at least bound (any int)");
+        WandSearch x = Make.fourDocuments();
+        x.item(0, 1);
+        for (int bound : new int[] {Make.LEAST, Make.LEAST + 1, -65536, -1, 0, 1}) {
+            EXPECT.due("scoring(" + bound + ")", x.scoring(bound), 2);
+        }
+        for (int bound : new int[] {9011, 65536, 65536 + 9010, Make.GREATEST - 1, Make.GREATEST}) {
+            EXPECT.due("scoring(" + bound + ")", x.scoring(bound), 0);
+        }
+        WandSearch none = new WandSearch();
+        EXPECT.due("scoring(least) of none", none.scoring(Make.LEAST), 0);
+        EXPECT.due("scoring(greatest) of none", none.scoring(Make.GREATEST), 0);
     }
 }
