@@ -1,45 +1,45 @@
-import java.util.List;
-import java.util.function.Supplier;
 import java.util.function.ToIntFunction;
 
 /** What calls leave as it was, the order of the tests, and the last of the 512 calls. */
 public final class ChangesTest {
     private static final Expect EXPECT = new Expect();
+    private static final State NEW = new State(WandSearch::new);
+    private static final State HALF_FULL = new State(Make::halfFull);
+    private static final State MANY_MATCHING = new State(Make::manyMatching);
+    private static final State FULL = new State(Make::full);
 
     public static void main(String[] args) {
-        noQuestionChangesAnything();
-        refusedCallsChangeNothing();
-        testsInTheOrderNamed();
-        atMost512Calls();
-        EXPECT.finish();
+        EXPECT.run(
+            ChangesTest::noQuestionChangesAnything,
+            ChangesTest::refusedCallsChangeNothing,
+            ChangesTest::testsInTheOrderNamed,
+            ChangesTest::atMost512Calls);
     }
 
-    /** The object is compared with one made alike that did not get the call. */
-    private static void leaves(Supplier<WandSearch> made, String call, int due, ToIntFunction<WandSearch> ask) {
-        WandSearch x = made.get();
-        EXPECT.due(call, ask.applyAsInt(x), due);
-        List<String> seen = State.of(x);
-        EXPECT.same(call, seen, State.of(made.get()));
+    private static void leaves(State start, String call, int due, ToIntFunction<WandSearch> ask) {
+        EXPECT.due(call, ask.applyAsInt(start.make()), due);
+        start.staysWith(EXPECT, call, ask);
     }
 
     private static void noQuestionChangesAnything() {
         EXPECT.sentence("Terms", "No question changes anything.");
-        questions(WandSearch::new);
-        questions(Make::halfFull);
-        questions(Make::full);
+        questions(NEW);
+        questions(HALF_FULL);
+        questions(MANY_MATCHING);
+        questions(FULL);
     }
 
-    private static void questions(Supplier<WandSearch> made) {
-        leaves(made, "live()", made.get().live(), WandSearch::live);
-        leaves(made, "matching()", made.get().matching(), WandSearch::matching);
+    private static void questions(State start) {
+        start.staysWith(EXPECT, "live()", WandSearch::live);
+        start.staysWith(EXPECT, "matching()", WandSearch::matching);
         for (int number : new int[] {Make.LEAST, -1, 0, 1, 4, 7, 8, 9, 10, 23, 24, 40000, Make.GREATEST}) {
-            leaves(made, "spread(" + number + ")", made.get().spread(number), x -> x.spread(number));
-            leaves(made, "times(" + number + ", 5)", made.get().times(number, 5), x -> x.times(number, 5));
-            leaves(made, "times(5, " + number + ")", made.get().times(5, number), x -> x.times(5, number));
-            leaves(made, "score(" + number + ")", made.get().score(number), x -> x.score(number));
-            leaves(made, "ranked(" + number + ")", made.get().ranked(number), x -> x.ranked(number));
-            leaves(made, "rankedScore(" + number + ")", made.get().rankedScore(number), x -> x.rankedScore(number));
-            leaves(made, "scoring(" + number + ")", made.get().scoring(number), x -> x.scoring(number));
+            start.staysWith(EXPECT, "spread(" + number + ")", x -> x.spread(number));
+            start.staysWith(EXPECT, "times(" + number + ", 5)", x -> x.times(number, 5));
+            start.staysWith(EXPECT, "times(5, " + number + ")", x -> x.times(5, number));
+            start.staysWith(EXPECT, "score(" + number + ")", x -> x.score(number));
+            start.staysWith(EXPECT, "ranked(" + number + ")", x -> x.ranked(number));
+            start.staysWith(EXPECT, "rankedScore(" + number + ")", x -> x.rankedScore(number));
+            start.staysWith(EXPECT, "scoring(" + number + ")", x -> x.scoring(number));
         }
     }
 
@@ -51,57 +51,66 @@ public final class ChangesTest {
     }
 
     private static void refusedCallsOfANewObject() {
-        wrongArguments(WandSearch::new);
-        leaves(WandSearch::new, "delete(0) of none", -1, x -> x.delete(0));
-        leaves(WandSearch::new, "drop(0) of none", -1, x -> x.drop(0));
-        leaves(WandSearch::new, "times(0, 0) of none", -2, x -> x.times(0, 0));
-        leaves(WandSearch::new, "score(0) of none", -1, x -> x.score(0));
-        leaves(WandSearch::new, "ranked(0) of none", -2, x -> x.ranked(0));
-        leaves(WandSearch::new, "rankedScore(0) of none", -2, x -> x.rankedScore(0));
+        wrongArguments(NEW);
+        leaves(NEW, "delete(0) of none", -1, x -> x.delete(0));
+        leaves(NEW, "drop(0) of none", -1, x -> x.drop(0));
+        leaves(NEW, "times(0, 0) of none", -2, x -> x.times(0, 0));
+        leaves(NEW, "score(0) of none", -1, x -> x.score(0));
+        leaves(NEW, "ranked(0) of none", -2, x -> x.ranked(0));
+        leaves(NEW, "rankedScore(0) of none", -2, x -> x.rankedScore(0));
     }
 
     private static void refusedCallsWithRoom() {
-        wrongArguments(Make::halfFull);
-        leaves(Make::halfFull, "delete(3), deleted before", -1, x -> x.delete(3));
-        leaves(Make::halfFull, "delete(10), not added yet", -1, x -> x.delete(10));
-        leaves(Make::halfFull, "drop(1), not in the query", -1, x -> x.drop(1));
+        wrongArguments(HALF_FULL);
+        wrongArguments(MANY_MATCHING);
+        leaves(HALF_FULL, "delete(3), deleted before", -1, x -> x.delete(3));
+        leaves(HALF_FULL, "delete(10), not added yet", -1, x -> x.delete(10));
+        leaves(HALF_FULL, "drop(1), not in the query", -1, x -> x.drop(1));
     }
 
     private static void refusedCallsWithoutRoom() {
-        wrongArguments(Make::full);
-        leaves(Make::full, "add() when full", -1, WandSearch::add);
-        leaves(Make::full, "addMany(3, 24) when full adds none", 0, x -> x.addMany(3, 24));
-        leaves(Make::full, "delete(0), deleted before", -1, x -> x.delete(0));
-        leaves(Make::full, "delete(23), deleted before", -1, x -> x.delete(23));
+        wrongArguments(FULL);
+        leaves(FULL, "add() when full", -1, WandSearch::add);
+        leaves(FULL, "addMany(3, 24) when full adds none", 0, x -> x.addMany(3, 24));
+        leaves(FULL, "delete(0), deleted before", -1, x -> x.delete(0));
+        leaves(FULL, "delete(23), deleted before", -1, x -> x.delete(23));
         for (int boost : new int[] {0, 1, 9, 11, 19}) {
-            leaves(Make::full, "item(7, " + boost + ") as the sixth", -3, x -> x.item(7, boost));
+            leaves(FULL, "item(7, " + boost + ") as the sixth", -3, x -> x.item(7, boost));
         }
-        leaves(Make::full, "drop(7), not in the query", -1, x -> x.drop(7));
+        leaves(FULL, "drop(7), not in the query", -1, x -> x.drop(7));
     }
 
-    private static void wrongArguments(Supplier<WandSearch> made) {
+    private static void wrongArguments(State start) {
         for (int word : Make.outside(0, 7)) {
-            leaves(made, "write(" + word + ", 4)", -1, x -> x.write(word, 4));
-            leaves(made, "item(" + word + ", 4)", -1, x -> x.item(word, 4));
-            leaves(made, "drop(" + word + ")", -1, x -> x.drop(word));
+            leaves(start, "write(" + word + ", 4)", -1, x -> x.write(word, 4));
+            leaves(start, "times(" + word + ", 1)", -1, x -> x.times(word, 1));
+            leaves(start, "spread(" + word + ")", -1, x -> x.spread(word));
+            leaves(start, "item(" + word + ", 4)", -1, x -> x.item(word, 4));
+            leaves(start, "drop(" + word + ")", -1, x -> x.drop(word));
         }
         for (int times : Make.outside(0, 7)) {
-            leaves(made, "write(2, " + times + ")", -2, x -> x.write(2, times));
+            leaves(start, "write(2, " + times + ")", -2, x -> x.write(2, times));
         }
         for (int seed : Make.outside(0, 10)) {
-            leaves(made, "addMany(" + seed + ", 3)", -1, x -> x.addMany(seed, 3));
+            leaves(start, "addMany(" + seed + ", 3)", -1, x -> x.addMany(seed, 3));
         }
         for (int count : Make.outside(1, 24)) {
-            leaves(made, "addMany(3, " + count + ")", -2, x -> x.addMany(3, count));
+            leaves(start, "addMany(3, " + count + ")", -2, x -> x.addMany(3, count));
         }
         for (int document : Make.outside(0, 23)) {
-            leaves(made, "delete(" + document + ")", -1, x -> x.delete(document));
+            leaves(start, "delete(" + document + ")", -1, x -> x.delete(document));
+            leaves(start, "times(1, " + document + ")", -2, x -> x.times(1, document));
+            leaves(start, "score(" + document + ")", -1, x -> x.score(document));
         }
         for (int boost : Make.outside(0, 19)) {
-            leaves(made, "item(0, " + boost + ")", -2, x -> x.item(0, boost));
+            leaves(start, "item(0, " + boost + ")", -2, x -> x.item(0, boost));
         }
-        leaves(made, "item(0, 10)", -2, x -> x.item(0, 10));
-        leaves(made, "item(5, 10)", -2, x -> x.item(5, 10));
+        leaves(start, "item(0, 10)", -2, x -> x.item(0, 10));
+        leaves(start, "item(5, 10)", -2, x -> x.item(5, 10));
+        for (int position : Make.outside(0, 9)) {
+            leaves(start, "ranked(" + position + ")", -1, x -> x.ranked(position));
+            leaves(start, "rankedScore(" + position + ")", -1, x -> x.rankedScore(position));
+        }
     }
 
     private static void testsInTheOrderNamed() {

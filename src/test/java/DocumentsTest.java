@@ -5,27 +5,27 @@ public final class DocumentsTest {
     private static final Expect EXPECT = new Expect();
 
     public static void main(String[] args) {
-        addManyAddsUpToCount();
-        addManyCountsFromZero();
-        addManyGoesRoundAtEleven();
-        addManyTakesThreeOff();
-        addManyOfEachSeed();
-        addManyOfWrongSeed();
-        addManyOfWrongCount();
-        addManyAnswersHowMany();
-        addManyLeavesTheDraft();
-        deleteDeletes();
-        deleteOfNoLiveDocument();
-        deleteAnswersHowManyAreLive();
-        tidyChangesNoAnswer();
-        tidyAnswersHowManyAreLive();
-        live();
-        timesInADocument();
-        timesOfNoWord();
-        timesInNoLiveDocument();
-        spreadOverLiveDocuments();
-        spreadOfNoWord();
-        EXPECT.finish();
+        EXPECT.run(
+            DocumentsTest::addManyAddsUpToCount,
+            DocumentsTest::addManyCountsFromZero,
+            DocumentsTest::addManyGoesRoundAtEleven,
+            DocumentsTest::addManyTakesThreeOff,
+            DocumentsTest::addManyOfEachSeed,
+            DocumentsTest::addManyOfWrongSeed,
+            DocumentsTest::addManyOfWrongCount,
+            DocumentsTest::addManyAnswersHowMany,
+            DocumentsTest::addManyLeavesTheDraft,
+            DocumentsTest::deleteDeletes,
+            DocumentsTest::deleteOfNoLiveDocument,
+            DocumentsTest::deleteAnswersHowManyAreLive,
+            DocumentsTest::tidyChangesNoAnswer,
+            DocumentsTest::tidyAnswersHowManyAreLive,
+            DocumentsTest::live,
+            DocumentsTest::timesInADocument,
+            DocumentsTest::timesOfNoWord,
+            DocumentsTest::timesInNoLiveDocument,
+            DocumentsTest::spreadOverLiveDocuments,
+            DocumentsTest::spreadOfNoWord);
     }
 
     private static void addManyAddsUpToCount() {
@@ -225,23 +225,22 @@ public final class DocumentsTest {
 
     private static void tidyChangesNoAnswer() {
         EXPECT.sentence("7", "no answer of any call depends on it");
-        EXPECT.same("tidy() of a new object", State.of(tidied(new WandSearch())), State.of(new WandSearch()));
-        EXPECT.same("tidy() with room", State.of(tidied(Make.halfFull())), State.of(Make.halfFull()));
-        EXPECT.same("tidy() without room", State.of(tidied(Make.full())), State.of(Make.full()));
-        EXPECT.same("tidy() of none live", State.of(tidied(allDeleted())), State.of(allDeleted()));
+        new State(WandSearch::new).staysWith(EXPECT, "tidy() of a new object", WandSearch::tidy);
+        new State(Make::halfFull).staysWith(EXPECT, "tidy() with room", WandSearch::tidy);
+        new State(Make::manyMatching).staysWith(EXPECT, "tidy() with many matching", WandSearch::tidy);
+        new State(Make::full).staysWith(EXPECT, "tidy() without room", WandSearch::tidy);
+        new State(DocumentsTest::allDeleted).staysWith(EXPECT, "tidy() of none live", WandSearch::tidy);
         WandSearch x = Make.halfFull();
-        WandSearch y = tidied(Make.halfFull());
+        WandSearch y = Make.halfFull();
         for (int document = 0; document < 10; document++) {
+            y.tidy();
             EXPECT.due("delete(" + document + ") after tidy", y.delete(document), x.delete(document));
-            EXPECT.due("ranked(0) after tidy", tidied(y).ranked(0), x.ranked(0));
+            y.tidy();
+            EXPECT.due("ranked(0) after tidy", y.ranked(0), x.ranked(0));
             EXPECT.due("add() after tidy", y.add(), x.add());
+            EXPECT.due("score(" + document + ") after tidy", y.score(document + 1), x.score(document + 1));
+            EXPECT.due("spread(3) after tidy", y.spread(3), x.spread(3));
         }
-        EXPECT.same("tidy() between deletes and adds", State.of(y), State.of(x));
-    }
-
-    private static WandSearch tidied(WandSearch x) {
-        x.tidy();
-        return x;
     }
 
     private static WandSearch allDeleted() {

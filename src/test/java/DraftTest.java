@@ -3,19 +3,19 @@ public final class DraftTest {
     private static final Expect EXPECT = new Expect();
 
     public static void main(String[] args) {
-        newObjectHasNoDocuments();
-        newObjectHasAnEmptyDraftAndQuery();
-        writeSets();
-        writeOfNoWord();
-        writeOfWrongTimes();
-        writeAnswersTheLength();
-        blankEmptiesTheDraft();
-        blankAnswersTheLengthBefore();
-        addTakesTheDraft();
-        addLeavesTheDraft();
-        addOfTooMany();
-        addAnswersTheNumber();
-        EXPECT.finish();
+        EXPECT.run(
+            DraftTest::newObjectHasNoDocuments,
+            DraftTest::newObjectHasAnEmptyDraftAndQuery,
+            DraftTest::writeSets,
+            DraftTest::writeOfNoWord,
+            DraftTest::writeOfWrongTimes,
+            DraftTest::writeAnswersTheLength,
+            DraftTest::blankEmptiesTheDraft,
+            DraftTest::blankAnswersTheLengthBefore,
+            DraftTest::addTakesTheDraft,
+            DraftTest::addLeavesTheDraft,
+            DraftTest::addOfTooMany,
+            DraftTest::addAnswersTheNumber);
     }
 
     private static void newObjectHasNoDocuments() {

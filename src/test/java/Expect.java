@@ -5,6 +5,18 @@ final class Expect {
     private int wrong = 0;
     private String sentence = "";
 
+    /** Runs all tests, also those behind one in which a call throws, which none may. */
+    void run(Runnable... tests) {
+        for (Runnable test : tests) {
+            try {
+                test.run();
+            } catch (RuntimeException thrown) {
+                tell("a call threw " + thrown + " at " + thrown.getStackTrace()[0]);
+            }
+        }
+        finish();
+    }
+
     /** Says which words of the document the calls from here on hold to; place is a promise or a section. */
     void sentence(String place, String words) {
         sentence = place + " \"" + words + "\": ";

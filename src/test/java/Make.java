@@ -67,6 +67,17 @@ final class Make {
         return x;
     }
 
+    /** Twenty documents, of which 16 match, so that the ranking shows nearly all of them. */
+    static WandSearch manyMatching() {
+        WandSearch x = new WandSearch();
+        x.addMany(4, 20);
+        x.write(7, 3);
+        x.item(0, 5);
+        x.item(3, 2);
+        x.item(6, 9);
+        return x;
+    }
+
     /** No room for a document nor for an item; documents 0, 7 and 23 are deleted; the draft has 12 words. */
     static WandSearch full() {
         WandSearch x = new WandSearch();

@@ -38,7 +38,7 @@ public final class ModelTest {
         for (int call = 0; call < CALLS && !expect.anyWrong(); call++) {
             int method = pickMethod(random, seed);
             int a = pick(random, mostFirst(method));
-            int b = pick(random, mostSecond(method));
+            int b = pick(random, mostSecond(method, seed));
             String told = "run " + seed + ", call " + call + ": " + NAMES[method] + " with " + a + ", " + b;
             expect.due(told, ask(x, method, a, b), due(method, a, b));
         }
@@ -67,9 +67,10 @@ public final class ModelTest {
         }
     }
 
-    private static int mostSecond(int method) {
+    private static int mostSecond(int method, int seed) {
         switch (method) {
-            case 3: return 6;
+            // Few at a time in most runs, for a run is full after one great count.
+            case 3: return seed % 4 == 0 ? 24 : 6;
             case 7: return 23;
             case 9: return 19;
             default: return 7;

@@ -5,22 +5,22 @@ public final class QueryTest {
     private static final int ONCE = 106 * 85;
 
     public static void main(String[] args) {
-        itemPutsIn();
-        itemChanges();
-        itemWanted();
-        itemNeeded();
-        itemBarred();
-        itemOfNoWord();
-        itemOfWrongBoost();
-        itemTooMany();
-        itemAnswersHowMany();
-        dropTakesOut();
-        dropOfNone();
-        dropAnswersHowMany();
-        matching();
-        scoreMatchingOrNot();
-        scoreOfNoLiveDocument();
-        EXPECT.finish();
+        EXPECT.run(
+            QueryTest::itemPutsIn,
+            QueryTest::itemChanges,
+            QueryTest::itemWanted,
+            QueryTest::itemNeeded,
+            QueryTest::itemBarred,
+            QueryTest::itemOfNoWord,
+            QueryTest::itemOfWrongBoost,
+            QueryTest::itemTooMany,
+            QueryTest::itemAnswersHowMany,
+            QueryTest::dropTakesOut,
+            QueryTest::dropOfNone,
+            QueryTest::dropAnswersHowMany,
+            QueryTest::matching,
+            QueryTest::scoreMatchingOrNot,
+            QueryTest::scoreOfNoLiveDocument);
     }
 
     private static void itemPutsIn() {

@@ -5,17 +5,17 @@ public final class RankingTest {
     private static final Expect EXPECT = new Expect();
 
     public static void main(String[] args) {
-        rankedAtAPosition();
-        rankedOfOnlyMatchingDocuments();
-        rankedOfWrongPosition();
-        rankedOfTooFewDocuments();
-        rankedScoreOfThatDocument();
-        rankedScoreOfWrongPosition();
-        rankedScoreOfTooFewDocuments();
-        scoringAtLeast();
-        scoringOfOnlyMatchingDocuments();
-        scoringOfAnyBound();
-        EXPECT.finish();
+        EXPECT.run(
+            RankingTest::rankedAtAPosition,
+            RankingTest::rankedOfOnlyMatchingDocuments,
+            RankingTest::rankedOfWrongPosition,
+            RankingTest::rankedOfTooFewDocuments,
+            RankingTest::rankedScoreOfThatDocument,
+            RankingTest::rankedScoreOfWrongPosition,
+            RankingTest::rankedScoreOfTooFewDocuments,
+            RankingTest::scoringAtLeast,
+            RankingTest::scoringOfOnlyMatchingDocuments,
+            RankingTest::scoringOfAnyBound);
     }
 
     private static void ranks(String run, WandSearch x, int... documents) {

@@ -3,32 +3,32 @@ public final class TermsTest {
     private static final Expect EXPECT = new Expect();
 
     public static void main(String[] args) {
-        wordsAreNumbered();
-        goodWords();
-        howOften();
-        lengthIsTheSum();
-        numbersInOrder();
-        numbersAreKept();
-        othersAreLive();
-        draftAtFirst();
-        upToFiveItems();
-        itemsOfDifferentWords();
-        kindsAndBoosts();
-        queryAtFirst();
-        liveDocumentMatches();
-        oneWantedOrNeeded();
-        allNeeded();
-        noBarred();
-        onceOrMore();
-        quotientsAreWhole();
-        onlyLiveAreCounted();
-        rarity();
-        strength();
-        strengthOfNone();
-        scoreIsTheSum();
-        fallingScore();
-        sameScore();
-        EXPECT.finish();
+        EXPECT.run(
+            TermsTest::wordsAreNumbered,
+            TermsTest::goodWords,
+            TermsTest::howOften,
+            TermsTest::lengthIsTheSum,
+            TermsTest::numbersInOrder,
+            TermsTest::numbersAreKept,
+            TermsTest::othersAreLive,
+            TermsTest::draftAtFirst,
+            TermsTest::upToFiveItems,
+            TermsTest::itemsOfDifferentWords,
+            TermsTest::kindsAndBoosts,
+            TermsTest::queryAtFirst,
+            TermsTest::liveDocumentMatches,
+            TermsTest::oneWantedOrNeeded,
+            TermsTest::allNeeded,
+            TermsTest::noBarred,
+            TermsTest::onceOrMore,
+            TermsTest::quotientsAreWhole,
+            TermsTest::onlyLiveAreCounted,
+            TermsTest::rarity,
+            TermsTest::strength,
+            TermsTest::strengthOfNone,
+            TermsTest::scoreIsTheSum,
+            TermsTest::fallingScore,
+            TermsTest::sameScore);
     }
 
     private static void wordsAreNumbered() {
@@ -59,14 +59,15 @@ public final class TermsTest {
 
     private static void howOften() {
         EXPECT.sentence("Terms", "A DOCUMENT says how often, 0 to 7 times, each word occurs in it");
-        for (int first = 0; first <= 7; first++) {
-            WandSearch x = new WandSearch();
+        WandSearch x = new WandSearch();
+        for (int document = 0; document <= 7; document++) {
             for (int word = 0; word <= 7; word++) {
-                x.write(word, (first + word) % 8);
+                x.write(word, (document + word) % 8);
             }
             x.add();
             for (int word = 0; word <= 7; word++) {
-                EXPECT.due("times(" + word + ", 0)", x.times(word, 0), (first + word) % 8);
+                int due = (document + word) % 8;
+                EXPECT.due("times(" + word + ", " + document + ")", x.times(word, document), due);
             }
         }
     }
@@ -398,7 +399,7 @@ public final class TermsTest {
 
     private static void scoreIsTheSum() {
         EXPECT.sentence("Terms",
-            "THE SCORE of a document is the sum, over all wanted and needed items, of boost times rarity times strength");
+            "THE SCORE of a document is the sum, over all wanted and needed items, of boost times rarity");
         WandSearch x = new WandSearch();
         Make.row(x, 0, 0, 7, 7, 7, 7, 7, 7);
         x.blank();
