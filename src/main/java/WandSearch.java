@@ -261,7 +261,7 @@ public final class WandSearch {
         return hasOne;
     }
 
-    // The greatest sum, 5 items of boost 9, rarity 1600 and strength below 256, is far inside int.
+    // Even 5 items of boost 9, rarity 1600 and strength 255 would make a sum far inside int.
     private int scoreOf(int document) {
         int sum = 0;
         for (int word = 0; word < WORDS; word++) {

@@ -28,6 +28,7 @@ public final class FaceTest {
         TreeSet<String> seen = new TreeSet<>();
         for (Method method : type.getDeclaredMethods()) {
             if (Modifier.isPrivate(method.getModifiers())) {
+                hasANameOfItsOwn(expect, method);
                 continue;
             }
             seen.add(method.getName() + "/" + method.getParameterCount());
@@ -40,6 +41,13 @@ public final class FaceTest {
         }
         TreeSet<String> face = new TreeSet<>(Arrays.asList(FACE));
         expect.holds("the methods " + seen + " are " + face, seen.equals(face));
+    }
+
+    private static void hasANameOfItsOwn(Expect expect, Method method) {
+        for (String called : FACE) {
+            expect.holds(method + " does not bear the name of a public one",
+                !called.startsWith(method.getName() + "/"));
+        }
     }
 
     private static void constructors(Expect expect, Class<?> type) {
